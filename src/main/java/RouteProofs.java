@@ -1380,7 +1380,7 @@ public final class RouteProofs {
             long tooEarly = 0;
             int length = 0;
             for (int cell = 0; cell < MOST_CELLS; cell++) {
-                if (holds(members, cell) && leader[cell] == NONE) {
+                if (holds(members, cell) && leader[cell] == NONE && length < MOST_CELLS) {
                     reached |= bit(cell);
                     queue[length] = cell;
                     length++;
