@@ -482,6 +482,9 @@ public final class PromisesTest {
         due("tuples of two cells", pairs(6, 6, 8, 8, 9, 9).tuples(), 1);
         due("tuples around a cell", pairs(3, 3, 0, 8, 4, 4).tuples(), 2);
         due("a cell as the first pair", pairs(3, 3, 4, 4, 0, 8).tuples(), 2);
+        due("tuples around two cells", pairs(3, 3, 0, 8, 6, 6, 4, 4).tuples(), 1);
+        due("tuples between two cells", pairs(3, 3, 2, 2, 6, 6, 0, 8).tuples(), 4);
+        due("a cell at the edge comes last", pairs(3, 3, 0, 8, 4, 4, 6, 6, 2, 2).tuples(), 0);
         due("tuples at an end", pairs(3, 3, 0, 4, 4, 8).tuples(), 0);
         due("tuples one behind the other", pairs(3, 3, 0, 1, 4, 8).tuples(), 2);
         due("tuples that cross", pairs(4, 4, 1, 14, 4, 11).tuples(), 0);
@@ -572,6 +575,8 @@ public final class PromisesTest {
         due("flow through two", Texts.grid("s...t/s.#.t/s...t").flow(), 2);
         due("flow through further sources", Texts.grid("sst/###").flow(), 1);
         due("flow that must give way", Texts.grid("#s##/s..t/.##./...t").flow(), 2);
+        due("flow that takes back a cell", Texts.grid("...s..t/s....#./.s.t..t").flow(), 3);
+        due("flow that takes back a step", Texts.grid("t.t/#s./.t#/ss.").flow(), 2);
         due("flow without targets", Texts.grid("ss/ss").flow(), 0);
         due("flow without sources", Texts.grid("tt/tt").flow(), 0);
         due("flow of walls", Texts.grid("ST/ST").flow(), 0);
@@ -699,6 +704,9 @@ public final class PromisesTest {
         dueGroup("mmm/mmm", 1, 3);
         dueGroup("mm/mm/mm", 1, 2);
         dueGroup("M#m/m#m", 2, 3);
+        dueGroup("m#m/..m/.m./m.m", 2, 7, 9);
+        dueGroup("mm/mm/.m/.m/m#", 1, 2);
+        dueGroup("mm#/mmm/m##/mmm/mm#", 1, 10, 12);
         dueGroup("mMm/mmm", 0, 2);
         RouteProofs x = Texts.grid("mm/mm");
         due("group(HIGH)", x.group(HIGH), NONE);
@@ -896,6 +904,12 @@ public final class PromisesTest {
         due("check(HIGH, 0)", x.check(HIGH, 0), NO_SUCH);
         due("check(1, 2)", x.check(1, 2), BAD_VALUE);
         due("check(31, -1)", x.check(31, -1), BAD_VALUE);
+        RouteProofs three = Texts.grid("s..t/s..t");
+        go(three, 0, 4, 5, 6, 7);
+        go(three, 1, 0, 1, 2, 3);
+        go(three, 3, 4, 5, 6, 7);
+        due("the first and the second do not meet", three.check(3, 1), 1);
+        due("the first and the third meet", three.check(11, 1), 0);
     }
 
     private static void count() {
