@@ -620,20 +620,21 @@ public final class RouteProofs {
             return (set & notFirst) >>> 1 | set >>> width;
         }
 
+        /** The cells that lie behind a cell, itself too; none for a wall. */
         long behind(int cell) {
-            long open = open();
-            long found = bit(cell) & open;
-            for (int step = 0; step < 2 * MOST_SIDE; step++) {
-                found |= fall(found) & open;
-            }
-            return found;
+            return spread(cell, false);
         }
 
+        /** The cells that a cell lies behind, itself too; none for a wall. */
         long ahead(int cell) {
+            return spread(cell, true);
+        }
+
+        private long spread(int cell, boolean rising) {
             long open = open();
             long found = bit(cell) & open;
             for (int step = 0; step < 2 * MOST_SIDE; step++) {
-                found |= rise(found) & open;
+                found |= (rising ? rise(found) : fall(found)) & open;
             }
             return found;
         }
