@@ -1134,10 +1134,8 @@ public final class RouteProofs {
      * them; a search goes by turns from entrances to exits and from exits to entrances, whole sets at once.
      */
     private static final class Stream {
-        private static final int LAYERS = 2 * MOST_CELLS + 2;
-
-        // Even layers are sets of entrances, odd ones sets of exits.
-        final long[] layers = new long[LAYERS];
+        // The exits that a search first came to in each of its rounds; all rounds but the last have one, so 64 are enough.
+        final long[] exits = new long[MOST_CELLS];
         long open = 0;
         long sources = 0;
         long targets = 0;
@@ -1159,7 +1157,7 @@ public final class RouteProofs {
             cut(-1L);
             int found = 0;
             int end = search(grid);
-            while (end > 0 && found < MOST_CELLS) {
+            while (end >= 0 && found < MOST_CELLS) {
                 addRoute(grid, end);
                 found++;
                 end = search(grid);
@@ -1172,20 +1170,19 @@ public final class RouteProofs {
             return entered & ~passed;
         }
 
-        /** Searches a way for one more route: the layer in which it comes to a target, or -1. */
+        /** Searches a way for one more route: the round in which it comes to a target, or -1. */
         private int search(Grid grid) {
             long entrances = sources;
             entered = sources;
             passed = 0;
-            for (int layer = 1; layer < LAYERS && entrances != 0; layer += 2) {
-                long exits = (entrances & ~used | before(grid, entrances & used)) & ~passed;
-                passed |= exits;
-                layers[layer - 1] = entrances;
-                layers[layer] = exits;
-                if ((exits & targets) != 0) {
-                    return layer;
+            for (int round = 0; round < MOST_CELLS && entrances != 0; round++) {
+                long fresh = (entrances & ~used | before(grid, entrances & used)) & ~passed;
+                passed |= fresh;
+                exits[round] = fresh;
+                if ((fresh & targets) != 0) {
+                    return round;
                 }
-                entrances = (grid.around(exits) & open | exits & used) & ~entered;
+                entrances = (grid.around(fresh) & open | fresh & used) & ~entered;
                 entered |= entrances;
             }
             return -1;
@@ -1208,17 +1205,17 @@ public final class RouteProofs {
         }
 
         /**
-         * Goes back from a target through the layers of the search. Where the search went against a route,
+         * Goes back from a target through the rounds of the search. Where the search went against a route,
          * that route loses the step, and its parts go on with those of the new one.
          */
         private void addRoute(Grid grid, int end) {
-            if (end >= LAYERS) {
+            if (end < 0 || end >= MOST_CELLS) {
                 return;
             }
             long usedBefore = used;
-            long exit = one(layers[end] & targets);
+            long exit = one(exits[end] & targets);
             long next = 0;
-            for (int layer = end; layer >= 1; layer -= 2) {
+            for (int round = end; round >= 0; round--) {
                 long entrance = exit;
                 if ((exit & usedBefore) == 0) {
                     used |= exit;
@@ -1227,13 +1224,13 @@ public final class RouteProofs {
                     cut(exit);
                 }
                 lead(grid, exit, next);
-                long exits = layer >= 2 ? layers[layer - 2] : 0;
-                if ((entrance & usedBefore & exits) != 0) {
+                long earlier = round > 0 ? exits[round - 1] : 0;
+                if ((entrance & usedBefore & earlier) != 0) {
                     used &= ~entrance;
                     exit = entrance;
                     next = 0;
                 } else {
-                    exit = one(grid.around(entrance) & exits);
+                    exit = one(grid.around(entrance) & earlier);
                     next = entrance;
                 }
             }
