@@ -15,6 +15,7 @@ public final class RefusedCallsTest {
 
     public static void main(String[] args) {
         DOC.section("Description");
+        errorCodes();
         DOC.says("A call that returns an error changes nothing.");
         untouched = Snapshot.ofAll(full());
         refusedOnTheGrid();
@@ -27,11 +28,22 @@ public final class RefusedCallsTest {
         goneOnlyIfSaid();
         questionsChangeNothing();
         manyCalls();
-        DOC.end();
+        DOC.endWithDescription("A method that fails", "Everything is numbered");
     }
 
     private static void due(String call, long got, long want) {
         DOC.due(call, got, want);
+    }
+
+    private static void errorCodes() {
+        DOC.says("A method that fails returns one of the error codes NO_SUCH (-1), BAD_VALUE (-2), BAD_TEXT (-3), TOO_MANY (-4) and"
+            + " NOT_POSSIBLE (-5)");
+        RouteProofs x = full();
+        due("NO_SUCH", x.turn(4), -1);
+        due("BAD_VALUE", x.save(2), -2);
+        due("BAD_TEXT", x.load(), -3);
+        due("TOO_MANY", x.put('.'), -4);
+        due("NOT_POSSIBLE", x.restore(1), -5);
     }
 
     /** Full of everything: four pairs, a pad of 80 characters, a place saved and the other one not. */

@@ -8,10 +8,12 @@ import java.util.regex.Pattern;
 /**
  * Sentences of the document, each with the answers that are due if it holds. Each quote is looked up in the
  * document; and of the promises that a test is for, each clause that names a code and each line about an
- * argument must have been quoted, so that none of them can be forgotten.
+ * argument must have been quoted, and of a part of the description each sentence, so that none of them can
+ * be forgotten.
  */
 final class Sentences {
     private static final Path DOCUMENT = Path.of("../shared/DOC.md");
+    private static final String SENTENCE_ENDS = "(?<=\\.|\\.\\)|;)\\s+(?=[A-Za-z\"(])";
     private static final Pattern CODE = Pattern.compile("\\b(NO_SUCH|BAD_VALUE|BAD_TEXT|TOO_MANY|NOT_POSSIBLE|NONE|GONE)\\b");
 
     private final Due due;
@@ -93,6 +95,19 @@ final class Sentences {
             for (String piece : piecesOf(number)) {
                 due.holds(headingOf(number) + " has a test of: " + piece, isQuoted(headingOf(number), piece));
             }
+        }
+        end();
+    }
+
+    /** Each sentence of the description from one on, up to another one, must have been quoted. */
+    void endWithDescription(String first, String beyond) {
+        section("Description");
+        String text = squeezed(section);
+        int from = text.indexOf(first);
+        int to = text.indexOf(beyond);
+        due.holds("the description goes from " + first + " to " + beyond, from >= 0 && from < to);
+        for (String sentence : text.substring(Math.max(from, 0), Math.max(to, 0)).split(SENTENCE_ENDS)) {
+            due.holds("the description has a test of: " + sentence, isQuoted(heading, sentence.trim()));
         }
         end();
     }
