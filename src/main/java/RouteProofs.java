@@ -871,7 +871,6 @@ public final class RouteProofs {
         }
     }
 
-
     /** Counts falling routes, and the determinant of the pairs. */
     private static final class Descent {
         final long[] ways = new long[MOST_CELLS];

@@ -1,3 +1,5 @@
+import java.util.ArrayList;
+import java.util.List;
 import java.util.Random;
 
 /**
@@ -7,8 +9,6 @@ import java.util.Random;
 public final class ComparisonTest {
     private static final Due DUE = new Due("ComparisonTest");
     private static final int[] ODD = {-1, -2, 64, 65, 1000, Integer.MIN_VALUE, Integer.MAX_VALUE};
-    // More tuples than that the model could not try in time.
-    private static final double MOST_TUPLES = 3e5;
 
     private final RouteProofs x = new RouteProofs();
     private final PlainModel model = new PlainModel();
@@ -28,6 +28,9 @@ public final class ComparisonTest {
         }
         for (int seed = 0; seed < 60 && DUE.isSpotless(); seed++) {
             new ComparisonTest(seed, 8).run(60);
+        }
+        for (int seed = 0; seed < 300 && DUE.isSpotless(); seed++) {
+            new ComparisonTest(seed, 8).manyTuples();
         }
         DUE.end();
     }
@@ -172,6 +175,41 @@ public final class ComparisonTest {
         }
     }
 
+    /** Pairs from near the first cell to near the last one on a grid with few walls: often very many tuples. */
+    private void manyTuples() {
+        int width = 6 + random.nextInt(3);
+        int height = 6 + random.nextInt(3);
+        due("setUp", x.setUp(width, height), model.setUp(width, height));
+        int walls = random.nextInt(5);
+        for (int wall = 0; wall < walls; wall++) {
+            int cell = random.nextInt(width * height);
+            due("wall(" + cell + ", 1)", x.wall(cell, 1), model.wall(cell, 1));
+        }
+        int pairs = 2 + random.nextInt(3);
+        List<Integer> starts = nearFirst(pairs, width);
+        List<Integer> ends = nearFirst(pairs, width);
+        for (int pair = 0; pair < pairs; pair++) {
+            int start = starts.get(pair);
+            int end = width * height - 1 - ends.get(pairs - 1 - pair);
+            due("pair(" + start + ", " + end + ")", x.pair(start, end), model.pair(start, end));
+            due("tuples", x.tuples(), model.tuples());
+            due("determinant", x.determinant(), model.determinant());
+        }
+    }
+
+    /** Cells near the first one, from the upper right to the lower left, so that routes need not cross; a few anywhere. */
+    private List<Integer> nearFirst(int number, int width) {
+        List<Integer> cells = new ArrayList<>();
+        for (int index = 0; index < number; index++) {
+            int along = random.nextInt(2);
+            boolean moved = random.nextInt(12) == 0;
+            int row = moved ? random.nextInt(4) : index + along;
+            int column = moved ? random.nextInt(4) : number - 1 - index + along;
+            cells.add(row * width + column);
+        }
+        return cells;
+    }
+
     private void sizeOrPairs() {
         if (random.nextBoolean()) {
             due("unpair", x.unpair(), model.unpair());
@@ -214,11 +252,7 @@ public final class ComparisonTest {
         switch (kind) {
             case 0: due("falling(" + a + ", " + b + ")", x.falling(a, b), model.falling(a, b)); break;
             case 1: due("determinant", x.determinant(), model.determinant()); break;
-            case 2: case 3: case 4:
-                if (model.tuplesToTry() <= MOST_TUPLES) {
-                    due("tuples", x.tuples(), model.tuples());
-                }
-                break;
+            case 2: case 3: case 4: due("tuples", x.tuples(), model.tuples()); break;
             default: due("pair(" + a + ", " + b + ")", x.pair(a, b), model.pair(a, b));
         }
     }

@@ -2,8 +2,10 @@ import java.util.ArrayDeque;
 import java.util.ArrayList;
 import java.util.Arrays;
 import java.util.Collections;
+import java.util.HashMap;
 import java.util.HashSet;
 import java.util.List;
+import java.util.Map;
 import java.util.Set;
 import java.util.TreeSet;
 import java.util.regex.Matcher;
@@ -17,6 +19,7 @@ final class PlainModel {
     private static final int NO_SUCH = -1, BAD_VALUE = -2, BAD_TEXT = -3, TOO_MANY = -4, NOT_POSSIBLE = -5, NONE = -6;
     private static final long GONE = -1000000000000000000L;
     private static final String SIGNS = "[.#sStTmM]";
+    private static final double MOST_TUPLES_TO_TRY = 3e5;
 
     private static final class State {
         int width = 6;
@@ -318,8 +321,8 @@ final class PlainModel {
         return number;
     }
 
-    /** How many tuples there would be if they did not have to be disjoint: what tuples() has to go through. */
-    double tuplesToTry() {
+    /** How many tuples there would be if they did not have to be disjoint. */
+    private double tuplesToTry() {
         double product = 1;
         for (int[] pair : s.pairs) {
             product *= countFalling(pair[0], pair[1]);
@@ -327,8 +330,60 @@ final class PlainModel {
         return product;
     }
 
+    /** By trying all routes if there are few; else row by row, which must be the same. */
     long tuples() {
-        return countTuples(0, new boolean[cells()]);
+        long byRows = tuplesByRows();
+        if (tuplesToTry() > MOST_TUPLES_TO_TRY) {
+            return byRows;
+        }
+        long tried = countTuples(0, new boolean[cells()]);
+        if (tried != byRows) {
+            throw new IllegalStateException("two numbers of tuples");
+        }
+        return tried;
+    }
+
+    /** Row by row: of each set of columns in which the routes come into a row, how many tuples do so. */
+    private long tuplesByRows() {
+        Map<List<Integer>, Long> coming = new HashMap<>();
+        coming.put(Collections.nCopies(s.pairs.size(), 0), 1L);
+        for (int row = 0; row < s.height; row++) {
+            Map<List<Integer>, Long> leaving = new HashMap<>();
+            for (Map.Entry<List<Integer>, Long> entry : coming.entrySet()) {
+                crossRow(row, 0, new ArrayList<>(entry.getKey()), new HashSet<>(), entry.getValue(), leaving);
+            }
+            coming = leaving;
+        }
+        return coming.values().stream().mapToLong(Long::longValue).sum();
+    }
+
+    /** Leads one route after the other from the column where it comes into a row to each where it can leave it. */
+    private void crossRow(int row, int index, List<Integer> columns, Set<Integer> taken, long ways, Map<List<Integer>, Long> leaving) {
+        if (index == columns.size()) {
+            leaving.merge(new ArrayList<>(columns), ways, Long::sum);
+            return;
+        }
+        int start = s.pairs.get(index)[0];
+        int end = s.pairs.get(index)[1];
+        int startRow = start / s.width;
+        int endRow = end / s.width;
+        if (startRow > endRow) {
+            return;
+        }
+        if (row < startRow || row > endRow) {
+            crossRow(row, index + 1, columns, taken, ways, leaving);
+            return;
+        }
+        int came = columns.get(index);
+        int first = row == startRow ? start % s.width : came;
+        Set<Integer> crossed = new HashSet<>(taken);
+        for (int column = first; column < s.width && !s.wall[row * s.width + column] && crossed.add(column); column++) {
+            if (row != endRow || column == end % s.width) {
+                columns.set(index, row == endRow ? 0 : column);
+                crossRow(row, index + 1, columns, crossed, ways, leaving);
+            }
+        }
+        columns.set(index, came);
     }
 
     private long countTuples(int index, boolean[] taken) {
