@@ -36,14 +36,6 @@ public final class CountingEdgesTest {
         DOC.due(call, got, want);
     }
 
-    private static long binomial(int of, int chosen) {
-        long result = 1;
-        for (int index = 1; index <= chosen; index++) {
-            result = result * (of - chosen + index) / index;
-        }
-        return result;
-    }
-
     private static void falling() {
         DOC.promise(12);
         DOC.says("Counts the falling routes from a cell to another one (or itself).");
@@ -51,7 +43,7 @@ public final class CountingEdgesTest {
             for (int height = 2; height <= 8; height++) {
                 RouteProofs x = Edges.sized(width, height);
                 int last = width * height - 1;
-                due("from first to last of " + width + " times " + height, x.falling(0, last), binomial(width + height - 2, width - 1));
+                due("from first to last of " + width + " times " + height, x.falling(0, last), Edges.binomial(width + height - 2, width - 1));
                 due("from last to first", x.falling(last, 0), 0);
                 due("to itself", x.falling(last, last), 1);
                 due("to the right", x.falling(0, 1), 1);

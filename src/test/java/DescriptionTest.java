@@ -267,14 +267,6 @@ public final class DescriptionTest {
         }
     }
 
-    private static long binomial(int of, int chosen) {
-        long result = 1;
-        for (int index = 1; index <= chosen; index++) {
-            result = result * (of - chosen + index) / index;
-        }
-        return result;
-    }
-
     private static void fallingRoutes() {
         DOC.says("A falling route is a free route whose steps only go right (x + 1) or down (y + 1).");
         int[][] sizes = {{2, 2}, {2, 8}, {8, 2}, {5, 7}, {8, 8}};
@@ -285,7 +277,7 @@ public final class DescriptionTest {
                 for (int b = 0; b < cells; b++) {
                     int right = b % size[0] - a % size[0];
                     int down = b / size[0] - a / size[0];
-                    long want = right < 0 || down < 0 ? 0 : binomial(right + down, right);
+                    long want = right < 0 || down < 0 ? 0 : Edges.binomial(right + down, right);
                     due("falling(" + a + ", " + b + ") in " + size[0] + " times " + size[1], x.falling(a, b), want);
                 }
             }

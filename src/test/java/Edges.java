@@ -22,6 +22,15 @@ final class Edges {
         return x;
     }
 
+    /** In how many orders so many steps right can stand among all steps: the routes across an open grid. */
+    static long binomial(int of, int chosen) {
+        long result = 1;
+        for (int index = 1; index <= chosen; index++) {
+            result = result * (of - chosen + index) / index;
+        }
+        return result;
+    }
+
     /** Steps along cells in a slot. */
     static void go(RouteProofs x, int slot, int... cells) {
         for (int cell : cells) {
